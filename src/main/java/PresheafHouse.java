@@ -363,7 +363,6 @@ public final class PresheafHouse {
         needClosed(sieve);
         of.tellCover(object, sieve);
         of.fixed = true;
-        of.findLeast();
         return order.countClosed(of.leastAt(object));
     }
 
@@ -381,7 +380,6 @@ public final class PresheafHouse {
         needWhole(of);
         order.startSieves(of, object);
         needClosed(sieve);
-        of.findLeast();
         return (of.leastAt(object) & ~sieve) == 0;
     }
 
@@ -390,14 +388,12 @@ public final class PresheafHouse {
         Category of = categoryAt(category);
         needObject(of, object);
         needWhole(of);
-        of.findLeast();
         return of.leastAt(object);
     }
 
     public boolean isSeparated(int presheaf) throws IndexOutOfBoundsException, UnsupportedOperationException {
         Presheaf of = presheafAt(presheaf);
         needWhole(of);
-        of.category.findLeast();
         return of.tellsApart();
     }
 
@@ -884,6 +880,8 @@ public final class PresheafHouse {
             objects = Math.max(0, Math.min(count, OBJECTS));
             arrows = objects;
             fixed = false;
+            Arrays.fill(from, -1);
+            Arrays.fill(to, -1);
             for (int object = 0; object < objects; object++) {
                 from[object] = object;
                 to[object] = object;
@@ -957,11 +955,11 @@ public final class PresheafHouse {
         }
 
         int fromOf(int arrow) {
-            return at(from, arrow);
+            return arrow >= 0 && arrow < from.length ? from[arrow] : -1;
         }
 
         int toOf(int arrow) {
-            return at(to, arrow);
+            return arrow >= 0 && arrow < to.length ? to[arrow] : -1;
         }
 
         void addArrow(int start, int end) {
@@ -973,12 +971,14 @@ public final class PresheafHouse {
         }
 
         boolean areComposable(int second, int first) {
-            return hasArrow(second) && hasArrow(first) && toOf(first) == fromOf(second);
+            int middle = toOf(first);
+            return middle >= 0 && middle == fromOf(second);
         }
 
         /** The second arrow behind the first one; -1 if they cannot be composed or it was not told. */
         int behind(int second, int first) {
-            if (!areComposable(second, first)) {
+            int middle = toOf(first);
+            if (middle < 0 || middle != fromOf(second)) {
                 return -1;
             }
             if (isIdentity(first)) {
@@ -1125,10 +1125,12 @@ public final class PresheafHouse {
                 toldCovers++;
             }
             meets[object] &= sieve;
+            findLeast();
         }
 
         int leastAt(int object) {
-            return at(leastCovers, object);
+            // Without told covers just the sieves of all arrows cover.
+            return toldCovers == 0 ? arrowsTo(object) : at(leastCovers, object);
         }
 
         /**
@@ -1136,7 +1138,7 @@ public final class PresheafHouse {
          * from each other, and have nothing but composites of their own: the topology of all sieves
          * above them is the least one, and every topology is of this form.
          */
-        void findLeast() {
+        private void findLeast() {
             for (int object = 0; object < objects; object++) {
                 leastCovers[object] = arrowsTo(object) & meets[object];
             }
@@ -1199,7 +1201,7 @@ public final class PresheafHouse {
         }
 
         int sizeAt(int object) {
-            return category.hasObject(object) ? at(sizes, object) : 0;
+            return object >= 0 && object < sizes.length ? sizes[object] : 0;
         }
 
         void setSize(int object, int size) {
@@ -1222,14 +1224,14 @@ public final class PresheafHouse {
 
         /** Where an action takes an element; -1 if there is no such element or nothing was told. */
         int imageOf(int arrow, int element) {
-            if (!category.hasArrow(arrow) || !hasElement(category.toOf(arrow), element)) {
+            if (element < 0 || element >= sizeAt(category.toOf(arrow))) {
                 return -1;
             }
             return category.isIdentity(arrow) ? element : at(actions, arrow * ELEMENTS + element);
         }
 
         void tell(int arrow, int element, int image) {
-            if (category.hasArrow(arrow) && hasElement(category.toOf(arrow), element)) {
+            if (hasElement(category.toOf(arrow), element)) {
                 put(actions, arrow * ELEMENTS + element, image);
             }
         }
@@ -1299,7 +1301,7 @@ public final class PresheafHouse {
             return true;
         }
 
-        /** Whether no two elements have the same family of the least cover, that was found before. */
+        /** Whether no two elements have the same family of the least cover. */
         boolean tellsApart() {
             for (int object = 0; object < category.objects; object++) {
                 for (int element = 0; element < sizeAt(object); element++) {
@@ -1369,7 +1371,7 @@ public final class PresheafHouse {
 
         int onArrow(int arrow) {
             // An identity has the number of its object, in both categories.
-            return source.isIdentity(arrow) ? onObject(arrow) : at(arrowImages, arrow);
+            return source.isIdentity(arrow) ? at(objectImages, arrow) : at(arrowImages, arrow);
         }
 
         boolean isComplete() {
@@ -1579,7 +1581,8 @@ public final class PresheafHouse {
 
         void addLink(int start, int arrow, int end) {
             boolean known = start >= 0 && start < variables && end >= 0 && end < variables;
-            if (known && links < LINKS && !target.category.isIdentity(arrow)) {
+            boolean acts = target.category.hasArrow(arrow) && !target.category.isIdentity(arrow);
+            if (known && acts && links < LINKS) {
                 linkFrom[links] = start;
                 linkArrow[links] = arrow;
                 linkTo[links] = end;
@@ -1629,15 +1632,19 @@ public final class PresheafHouse {
         /** Links with the same ends must agree, what settling alone does not see before a choice. */
         private void narrow(int link) {
             int variable = linkFrom[link];
-            for (int element = 0; element < ELEMENTS; element++) {
-                int image = target.imageOf(linkArrow[link], element);
-                boolean agrees = linkTo[link] != variable || image == element;
+            for (int choice = 1; choice < ELEMENT_SETS; choice += choice) {
+                int image = imageOf(link, choice);
+                boolean agrees = linkTo[link] != variable || image == choice;
                 for (int other = 0; other < link; other++) {
                     boolean parallel = linkFrom[other] == variable && linkTo[other] == linkTo[link];
-                    agrees = agrees && (!parallel || target.imageOf(linkArrow[other], element) == image);
+                    agrees = agrees && (!parallel || imageOf(other, choice) == image);
                 }
-                rows[variable] &= agrees ? -1 : ~bit(element);
+                rows[variable] &= agrees ? -1 : ~choice;
             }
+        }
+
+        private int imageOf(int link, int set) {
+            return at(images, linkArrow[link] * ELEMENT_SETS + set);
         }
 
         private void joinGroups(int one, int other) {
@@ -1649,26 +1656,23 @@ public final class PresheafHouse {
         }
 
         /** Takes away what no link leaves possible; false if nothing is left of some domain. */
-        private boolean settle(int row) {
-            int start = row * KEYS;
-            boolean changed = true;
+        private boolean settle(int start) {
+            boolean changed = start >= 0 && start + KEYS <= rows.length;
             // Each pass but the last one takes at least one element away.
             for (int pass = 0; changed && pass <= KEYS * ELEMENTS; pass++) {
                 changed = false;
                 for (int link = 0; link < links; link++) {
-                    int before = at(rows, start + linkFrom[link]);
-                    int after = at(rows, start + linkTo[link]);
+                    int source = start + linkFrom[link];
+                    int goal = start + linkTo[link];
                     int table = linkArrow[link] * ELEMENT_SETS;
-                    int end = after & at(images, table + before);
-                    int begin = before & at(origins, table + end);
-                    if (begin == 0 || end == 0) {
+                    int after = rows[goal] & images[table + rows[source]];
+                    int before = rows[source] & origins[table + after];
+                    if (before == 0 || after == 0) {
                         return false;
                     }
-                    if (begin != before || end != after) {
-                        put(rows, start + linkTo[link], end);
-                        put(rows, start + linkFrom[link], begin & (linkFrom[link] == linkTo[link] ? end : -1));
-                        changed = true;
-                    }
+                    changed = changed || before != rows[source] || after != rows[goal];
+                    rows[goal] = after;
+                    rows[source] = source == goal ? before & after : before;
                 }
             }
             return true;
@@ -1680,20 +1684,16 @@ public final class PresheafHouse {
             for (int group = 0; product > 0 && group < variables; group++) {
                 if (groups[group] == group) {
                     // Even beyond the limit a group must be looked at: without any solution, it leaves none.
-                    product = Math.min(product * countGroup(group, limit / product), limit + 1);
+                    int most = limit / product;
+                    int count = 0;
+                    begin(group);
+                    while (count <= most && advance()) {
+                        count++;
+                    }
+                    product = Math.min(product * count, limit + 1);
                 }
             }
             return product;
-        }
-
-        private int countGroup(int group, int limit) {
-            begin(group);
-            for (int count = 0; count <= limit; count++) {
-                if (!advance()) {
-                    return count;
-                }
-            }
-            return limit + 1;
         }
 
         /** Begins to go through the solutions for one group of variables, or for all. */
@@ -1720,43 +1720,32 @@ public final class PresheafHouse {
                     return true;
                 }
                 if (entering) {
-                    put(left, level, at(rows, level * KEYS + at(scope, level)));
+                    left[level] = rows[level * KEYS + scope[level]];
                 }
-                tryNext();
+                int choices = left[level];
+                left[level] = choices & (choices - 1);
+                entering = choices != 0 && choose(choices & -choices);
+                level += entering ? 1 : choices == 0 ? -1 : 0;
             }
             return false;
         }
 
-        private void tryNext() {
-            int choices = at(left, level);
-            entering = false;
-            if (choices == 0) {
-                level--;
-                return;
-            }
-            put(left, level, choices & (choices - 1));
-            if (choose(at(scope, level), choices & -choices)) {
-                level++;
-                entering = true;
-            }
-        }
-
-        private boolean choose(int variable, int choice) {
+        /** Writes the row after a choice for the variable of the level; false if it leaves nothing. */
+        private boolean choose(int choice) {
             int start = level * KEYS;
             int next = start + KEYS;
-            if (variable < 0 || next + KEYS > rows.length) {
-                return false;
-            }
+            int variable = scope[level];
             System.arraycopy(rows, start, rows, next, variables);
             if (rows[next + variable] == choice) {
                 return true;
             }
             rows[next + variable] = choice;
-            return settle(level + 1);
+            return settle(next);
         }
 
         int valueOf(int variable) {
             int choice = at(rows, level * KEYS + variable);
+            // The elements below the chosen one are as many as its number.
             return choice <= 0 ? -1 : Integer.bitCount(choice - 1);
         }
     }
@@ -1883,8 +1872,8 @@ public final class PresheafHouse {
         }
 
         void aimAtLeast(Presheaf of) {
-            aimAtAll(of);
-            outer.findLeast();
+            search.aim(of);
+            outer = of.category;
             for (int object = 0; object < outer.objects; object++) {
                 put(sieveAt, object, outer.leastAt(object));
             }
@@ -1898,22 +1887,18 @@ public final class PresheafHouse {
             }
         }
 
-        @Override
         boolean hasPair(int arrow, int tag) {
             return tag == 0 && has(at(sieveAt, outer.toOf(arrow)), arrow);
         }
 
-        @Override
         int objectOf(int arrow, int tag) {
             return outer.fromOf(arrow);
         }
 
-        @Override
         int rankOf(int arrow, int tag) {
             return 0;
         }
 
-        @Override
         int actedKey(int arrow, int tag, int inner) {
             return keyOf(outer.behind(arrow, inner), tag);
         }
@@ -1934,22 +1919,18 @@ public final class PresheafHouse {
             outer = first.category;
         }
 
-        @Override
         boolean hasPair(int arrow, int tag) {
             return exponent.hasElement(outer.fromOf(arrow), tag);
         }
 
-        @Override
         int objectOf(int arrow, int tag) {
             return outer.fromOf(arrow);
         }
 
-        @Override
         int rankOf(int arrow, int tag) {
             return outer.fromOf(arrow);
         }
 
-        @Override
         int actedKey(int arrow, int tag, int inner) {
             return keyOf(outer.behind(arrow, inner), exponent.imageOf(inner, tag));
         }
@@ -1970,22 +1951,18 @@ public final class PresheafHouse {
             outer = functor.goal;
         }
 
-        @Override
         boolean hasPair(int arrow, int tag) {
             return along.source.hasObject(tag) && along.onObject(tag) == outer.fromOf(arrow);
         }
 
-        @Override
         int objectOf(int arrow, int tag) {
             return tag;
         }
 
-        @Override
         int rankOf(int arrow, int tag) {
             return tag;
         }
 
-        @Override
         int actedKey(int arrow, int tag, int inner) {
             return keyOf(outer.behind(arrow, along.onArrow(inner)), along.source.fromOf(inner));
         }
