@@ -1,0 +1,161 @@
+import java.util.ArrayList;
+import java.util.List;
+
+/** A run of calls on a new house, each with the answer that is due; the slow house must give it, too. */
+final class Script {
+    static final String OUT = "throws.IndexOutOfBoundsException";
+    static final String ILLEGAL = "throws.IllegalArgumentException";
+    static final String UNSUPPORTED = "throws.UnsupportedOperationException";
+    static final String STATE = "throws.IllegalStateException";
+    static final String NONE = "throws.NoSuchElementException";
+    static final String ARITHMETIC = "throws.ArithmeticException";
+
+    private static final List<String> WRONG = new ArrayList<>();
+    private static int checks = 0;
+
+    private final String title;
+    private final Twin twin = new Twin();
+
+    Script(String title) {
+        this.title = title;
+    }
+
+    /** Makes a call and tells if the answer, or the exception's name behind throws., is not the due one. */
+    void due(Object want, String name, Object... arguments) {
+        checks++;
+        Object slow = twin.call(name, arguments);
+        String call = title + ": " + name + java.util.Arrays.toString(arguments);
+        if (twin.difference != null) {
+            WRONG.add(title + ": " + twin.difference);
+            twin.difference = null;
+        }
+        if (!want.equals(slow)) {
+            WRONG.add(call + ": the slow house answered " + slow + ", due is " + want);
+        }
+    }
+
+    void refused(String exception, String name, Object... arguments) {
+        due(exception, name, arguments);
+    }
+
+    /** A call whose answer does not matter to the test but to the slow house. */
+    int call(String name, Object... arguments) {
+        int answer = twin.number(name, arguments);
+        if (twin.difference != null) {
+            WRONG.add(title + ": " + twin.difference);
+            twin.difference = null;
+        }
+        return answer;
+    }
+
+    // ---- small worlds
+
+    /** 0 -> 1 by the arrow 2. */
+    int arrow() {
+        int category = call("category", 2);
+        call("arrow", category, 0, 1);
+        return category;
+    }
+
+    /** 0 -> 1 -> 2 by the arrows 3 and 4, with their composite 5. */
+    int chain() {
+        int category = call("category", 3);
+        call("arrow", category, 0, 1);
+        call("arrow", category, 1, 2);
+        call("arrow", category, 0, 2);
+        call("compose", category, 4, 3, 5);
+        return category;
+    }
+
+    /** Some arrows from 0 to 1, by the numbers from 2 on. */
+    int parallel(int arrows) {
+        int category = call("category", 2);
+        for (int i = 0; i < arrows; i++) {
+            call("arrow", category, 0, 1);
+        }
+        return category;
+    }
+
+    /** One object; the rows tell second behind first for all arrows but the identity. */
+    int monoid(int[]... rows) {
+        int category = call("category", 1);
+        for (int i = 0; i < rows.length; i++) {
+            call("arrow", category, 0, 0);
+        }
+        for (int second = 1; second <= rows.length; second++) {
+            for (int first = 1; first <= rows.length; first++) {
+                call("compose", category, second, first, rows[second - 1][first - 1]);
+            }
+        }
+        return category;
+    }
+
+    /** One object; each arrow but the identity is what comes of it behind anything: second behind first is second. */
+    int constants(int arrows) {
+        int[][] rows = new int[arrows][arrows];
+        for (int second = 0; second < arrows; second++) {
+            for (int first = 0; first < arrows; first++) {
+                rows[second][first] = second + 1;
+            }
+        }
+        return monoid(rows);
+    }
+
+    /** The group of two. */
+    int swap() {
+        return monoid(new int[] {0});
+    }
+
+    /** The group of three. */
+    int turn() {
+        return monoid(new int[] {2, 0}, new int[] {0, 1});
+    }
+
+    /** The idempotent: 1 behind 1 is 1. */
+    int idempotent() {
+        return monoid(new int[] {1});
+    }
+
+    /** A presheaf with as many elements at each object and nothing told. */
+    int sets(int category, int... sizes) {
+        int presheaf = call("presheaf", category);
+        for (int object = 0; object < sizes.length; object++) {
+            for (int i = 0; i < sizes[object]; i++) {
+                call("element", presheaf, object);
+            }
+        }
+        return presheaf;
+    }
+
+    /** Tells the action of an arrow on all elements. */
+    void acts(int presheaf, int arrow, int... images) {
+        for (int element = 0; element < images.length; element++) {
+            call("act", presheaf, arrow, element, images[element]);
+        }
+    }
+
+    /** Asks where the action of an arrow takes all elements. */
+    void actsAs(int presheaf, int arrow, int... images) {
+        for (int element = 0; element < images.length; element++) {
+            due(images[element], "image", presheaf, arrow, element);
+        }
+        refused(OUT, "image", presheaf, arrow, images.length);
+    }
+
+    void sizesAre(int presheaf, int... sizes) {
+        for (int object = 0; object < sizes.length; object++) {
+            due(sizes[object], "size", presheaf, object);
+        }
+        due(true, "isPresheaf", presheaf);
+    }
+
+    static void end(String test) {
+        for (String line : WRONG) {
+            System.out.println(line);
+        }
+        System.out.println(test + ": " + checks + " answers asked for, " + WRONG.size() + " not as due");
+        if (!WRONG.isEmpty()) {
+            System.exit(1);
+        }
+    }
+}
