@@ -21,7 +21,8 @@ public final class PresheafHouse {
     private static final int STEPS = 1 << 26;
 
     private final Category[] categories = new Category[CATEGORIES];
-    // One slot more than presheaves may have numbers: the last one is for what is refused at the end.
+    // The slot behind the last presheaf is for the next one while it is made, so there is one more than
+    // can have numbers.
     private final Presheaf[] presheaves = new Presheaf[PRESHEAVES + 1];
     private final Functor[] functors = new Functor[FUNCTORS];
     private final Order order;
@@ -628,7 +629,7 @@ public final class PresheafHouse {
         return presheaves[presheafCount];
     }
 
-    /** Gives the draft its number; only here is the room asked for, as it is the last thing to refuse. */
+    /** Gives the draft its number. The room is asked for only here: the document names it last. */
     private int keepDraft() throws IllegalStateException {
         if (presheafCount >= PRESHEAVES) {
             throw new IllegalStateException("there are 10 presheaves");
@@ -1632,7 +1633,8 @@ public final class PresheafHouse {
         /** Links with the same ends must agree, what settling alone does not see before a choice. */
         private void narrow(int link) {
             int variable = linkFrom[link];
-            for (int choice = 1; choice < ELEMENT_SETS; choice += choice) {
+            for (int element = 0; element < ELEMENTS; element++) {
+                int choice = bit(element);
                 int image = imageOf(link, choice);
                 boolean agrees = linkTo[link] != variable || image == choice;
                 for (int other = 0; other < link; other++) {

@@ -457,6 +457,43 @@ public final class PresheafPromisesTest {
         t.due(0, "maps", 3, 4);
         t.refused(Script.UNSUPPORTED, "maps", 4, 3);
         almost5000();
+        graphs();
+    }
+
+    /** Over two arrows from 0 to 1 presheaves are graphs: edges at 1 with a start and an end at 0. */
+    private static void graphs() {
+        Script s = new Script("promise 21, graphs");
+        s.parallel(2);
+        int[][] edges = {{0, 1, 1, 0}, {0, 1, 1, 2, 2, 0}, {0, 1, 1, 2, 2, 3, 3, 0}, {0, 1, 0, 2, 1, 2}, {0, 0, 0, 1}};
+        for (int i = 0; i < edges.length; i++) {
+            int points = 0;
+            for (int end : edges[i]) {
+                points = Math.max(points, end + 1);
+            }
+            s.due(i, "presheaf", 0);
+            for (int j = 0; j < points; j++) {
+                s.call("element", i, 0);
+            }
+            for (int j = 0; 2 * j < edges[i].length; j++) {
+                s.call("element", i, 1);
+                s.call("act", i, 2, j, edges[i][2 * j]);
+                s.call("act", i, 3, j, edges[i][2 * j + 1]);
+            }
+        }
+        // Round by two, three and four: none goes round another one but by a divisor.
+        int[][] counts = {{2, 0, 0, 0, 1}, {0, 3, 0, 0, 1}, {2, 0, 4, 0, 1}, {0, 0, 0, 1, 2}, {0, 0, 0, 0, 2}};
+        for (int i = 0; i < counts.length; i++) {
+            for (int j = 0; j < counts.length; j++) {
+                s.due(counts[i][j], "maps", i, j);
+            }
+        }
+        s.due(2, "mapped", 2, 2, 2, 0);
+        s.due(1, "mapped", 2, 2, 2, 3);
+        s.refused(Script.NONE, "mapped", 1, 0, 0, 0);
+        s.due(true, "areAlike", 2, 2);
+        s.due(false, "areAlike", 3, 1);
+        s.due(0, "sections", 1);
+        s.due(1, "sections", 4);
     }
 
     /** Just 5000: two elements over one go to two over one or to one, in 5 ways, and one alone goes in 2 ways. */
