@@ -398,6 +398,18 @@ public final class RandomRunsTest {
         twin.call("move", f, chosen, way);
     }
 
+    /** Any arguments at all, few of which exist. */
+    private void callWildly(String name) {
+        Class<?>[] types = Twin.types(name);
+        Object[] arguments = new Object[types.length];
+        for (int i = 0; i < types.length; i++) {
+            int small = upTo(20) - 3;
+            int wild = oneIn(3) ? random.nextInt() : oneIn(2) ? Integer.MIN_VALUE + upTo(3) : Integer.MAX_VALUE - upTo(3);
+            arguments[i] = types[i] == char.class ? (Object) (char) upTo(65536) : (Object) (oneIn(4) ? wild : small);
+        }
+        twin.call(name, arguments);
+    }
+
     private static final String[] RARE = {"element", "act", "drop", "sendObject", "sendArrow", "uncover", "category",
         "arrow", "compose"};
 
@@ -421,7 +433,9 @@ public final class RandomRunsTest {
                 }
             }
             String name = names.get(upTo(names.size()));
-            if (!Arrays.asList(RARE).contains(name) || oneIn(12)) {
+            if (oneIn(20)) {
+                callWildly(name);
+            } else if (!Arrays.asList(RARE).contains(name) || oneIn(12)) {
                 callOne(name);
             }
         }

@@ -51,7 +51,9 @@ final class Twin {
         Object got = answer(FAST.get(name), fast, arguments);
         String text = name + java.util.Arrays.toString(arguments);
         calls.add(text);
-        tally.merge(name + " " + (want instanceof String ? want : "answers"), 1, Integer::sum);
+        Object last = arguments.length > 0 ? arguments[arguments.length - 1] : "";
+        String kind = last instanceof Character && "x+^&|>blr".indexOf((char) last) >= 0 ? " " + last : "";
+        tally.merge(name + kind + " " + (want instanceof String ? want : "answers"), 1, Integer::sum);
         if (difference == null && !want.equals(got)) {
             difference = text + " answered " + got + ", due is " + want;
         }
