@@ -447,7 +447,7 @@ public final class RandomRunsTest {
 
     public static void main(String[] args) {
         long first = args.length > 1 ? Long.parseLong(args[1]) : 1;
-        long last = args.length > 2 ? Long.parseLong(args[2]) : 150;
+        long last = args.length > 2 ? Long.parseLong(args[2]) : 90;
         int wrong = 0;
         long since = System.nanoTime();
         Map<String, Integer> tally = new TreeMap<>();
