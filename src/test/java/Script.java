@@ -1,7 +1,10 @@
 import java.util.ArrayList;
 import java.util.List;
 
-/** A run of calls on a new house, each with the answer that is due; the slow house must give it, too. */
+/**
+ * A run of calls on a new house, each with the answer that is due; the slow house must give it, too, and a
+ * call that is refused must leave all as it was.
+ */
 final class Script {
     static final String OUT = "throws.IndexOutOfBoundsException";
     static final String ILLEGAL = "throws.IllegalArgumentException";
@@ -15,6 +18,10 @@ final class Script {
 
     private final String title;
     private final Twin twin = new Twin();
+    /** The calls that were answered: a name, then the arguments. */
+    private final List<Object[]> kept = new ArrayList<>();
+    /** What a house tells after these calls; null until it is asked for. */
+    private String before = null;
 
     Script(String title) {
         this.title = title;
@@ -23,29 +30,75 @@ final class Script {
     /** Makes a call and tells if the answer, or the exception's name behind throws., is not the due one. */
     void due(Object want, String name, Object... arguments) {
         checks++;
-        Object slow = twin.call(name, arguments);
+        Object slow = ask(name, arguments);
         String call = title + ": " + name + java.util.Arrays.toString(arguments);
+        if (!want.equals(slow)) {
+            WRONG.add(call + ": the slow house answered " + slow + ", due is " + want);
+        }
+    }
+
+    private Object ask(String name, Object... arguments) {
+        Object answer = twin.call(name, arguments);
         if (twin.difference != null) {
             WRONG.add(title + ": " + twin.difference);
             twin.difference = null;
         }
-        if (!want.equals(slow)) {
-            WRONG.add(call + ": the slow house answered " + slow + ", due is " + want);
+        if (answer instanceof String) {
+            mustKeepAll(name, arguments);
+        } else {
+            Object[] call = new Object[arguments.length + 1];
+            call[0] = name;
+            System.arraycopy(arguments, 0, call, 1, arguments.length);
+            kept.add(call);
+            before = null;
         }
+        return answer;
+    }
+
+    /** A house that is used up tells what a refused call left, so there is a new one for each. */
+    private void mustKeepAll(String name, Object... arguments) {
+        if (before == null) {
+            before = Readout.of(again());
+        }
+        PresheafHouse house = again();
+        Twin.ask(house, name, arguments);
+        if (!before.equals(Readout.of(house))) {
+            WRONG.add(title + ": " + name + java.util.Arrays.toString(arguments) + " was refused and changed something");
+        }
+    }
+
+    private PresheafHouse again() {
+        PresheafHouse house = new PresheafHouse();
+        for (Object[] call : kept) {
+            Twin.ask(house, (String) call[0], java.util.Arrays.copyOfRange(call, 1, call.length));
+        }
+        return house;
     }
 
     void refused(String exception, String name, Object... arguments) {
         due(exception, name, arguments);
     }
 
+    /** A call that is not refused by that exception, whatever else comes of it. */
+    void taken(String exception, String name, Object... arguments) {
+        checks++;
+        if (exception.equals(ask(name, arguments))) {
+            WRONG.add(title + ": " + name + java.util.Arrays.toString(arguments) + " was refused");
+        }
+    }
+
+    void known(boolean is, String exception, String name, Object... arguments) {
+        if (is) {
+            taken(exception, name, arguments);
+        } else {
+            refused(exception, name, arguments);
+        }
+    }
+
     /** A call whose answer does not matter to the test but to the slow house. */
     int call(String name, Object... arguments) {
-        int answer = twin.number(name, arguments);
-        if (twin.difference != null) {
-            WRONG.add(title + ": " + twin.difference);
-            twin.difference = null;
-        }
-        return answer;
+        Object answer = ask(name, arguments);
+        return answer instanceof Integer ? (Integer) answer : -1;
     }
 
     // ---- small worlds

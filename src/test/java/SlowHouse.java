@@ -1214,9 +1214,10 @@ public final class SlowHouse {
                 }
             }
             int places = p.whole() ? p.places().size() : 0;
-            for (int i = 0; i < places; i++) {
-                for (int j = 0; j < places; j++) {
-                    if (!p.cat.sieve(p.places().get(i)[0], p.truth(p.leastPart(1 << j), i))) {
+            for (int j = 0; j < places; j++) {
+                int least = p.leastPart(1 << j);
+                for (int i = 0; i < places; i++) {
+                    if (!p.cat.sieve(p.places().get(i)[0], p.truth(least, i))) {
                         return false;
                     }
                 }

@@ -45,6 +45,11 @@ final class Twin {
         }
     }
 
+    /** What a house answers, or the exception's name behind throws. */
+    static Object ask(PresheafHouse house, String name, Object... arguments) {
+        return answer(FAST.get(name), house, arguments);
+    }
+
     /** What both answer; where they do not, the first difference is kept. */
     Object call(String name, Object... arguments) {
         Object want = answer(SLOW.get(name), slow, arguments);
