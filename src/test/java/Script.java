@@ -87,6 +87,15 @@ final class Script {
         }
     }
 
+    /** A call that is refused by none. */
+    void answered(String name, Object... arguments) {
+        checks++;
+        Object answer = ask(name, arguments);
+        if (answer instanceof String) {
+            WRONG.add(title + ": " + name + java.util.Arrays.toString(arguments) + " answered " + answer);
+        }
+    }
+
     void known(boolean is, String exception, String name, Object... arguments) {
         if (is) {
             taken(exception, name, arguments);
