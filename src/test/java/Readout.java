@@ -103,10 +103,21 @@ final class Readout {
         }
         for (int category = 0; category < CATEGORIES; category++) {
             tell("functor", category, category);
-            tell("presheaf", category);
+            addPresheaf(category);
         }
         for (int i = 0; i <= PRESHEAVES; i++) {
             tell("drop");
+        }
+    }
+
+    /** Nothing is told of a new one, whatever was tried before it. */
+    private void addPresheaf(int category) {
+        Object presheaf = tell("presheaf", category);
+        for (int object = 0; object < OBJECTS && presheaf instanceof Integer; object++) {
+            tell("element", presheaf, object);
+        }
+        for (int arrow = 0; arrow < ARROWS && presheaf instanceof Integer; arrow++) {
+            tell("image", presheaf, arrow, 0);
         }
     }
 }

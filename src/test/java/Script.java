@@ -87,6 +87,13 @@ final class Script {
         }
     }
 
+    static void expect(boolean right, String what) {
+        checks++;
+        if (!right) {
+            WRONG.add("it is not so that " + what);
+        }
+    }
+
     /** A call that is refused by none. */
     void answered(String name, Object... arguments) {
         checks++;
