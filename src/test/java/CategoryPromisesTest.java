@@ -279,7 +279,35 @@ public final class CategoryPromisesTest {
         s.refused(Script.OUT, "times", 6, 0);
         s.refused(Script.OUT, "times", 0, 6);
         s.refused(Script.OUT, "times", -1, 2);
+        inverses9();
         bounds9();
+    }
+
+    /** There and back, with two objects: composites are identities of pairs. */
+    private static void inverses9() {
+        Script s = new Script("promise 9, there and back");
+        s.call("category", 2);
+        s.call("arrow", 0, 0, 1);
+        s.call("arrow", 0, 1, 0);
+        s.call("compose", 0, 3, 2, 0);
+        s.call("compose", 0, 2, 3, 1);
+        s.call("category", 2);
+        s.due(2, "times", 0, 1);
+        s.due(3, "times", 1, 0);
+        // Second, first and what comes of them, in the one product and in the other one.
+        int[][] rows = {{6, 4, 0}, {4, 6, 2}, {7, 5, 1}, {5, 7, 3}};
+        int[][] others = {{5, 4, 0}, {4, 5, 1}, {7, 6, 2}, {6, 7, 3}};
+        for (int i = 0; i < 4; i++) {
+            s.due(rows[i][2], "composite", 2, rows[i][0], rows[i][1]);
+            s.due(others[i][2], "composite", 3, others[i][0], others[i][1]);
+            s.refused(Script.UNSUPPORTED, "composite", 2, 4 + i, 4 + i);
+            s.refused(Script.UNSUPPORTED, "composite", 3, 4 + i, 4 + i);
+        }
+        for (int made = 2; made < 4; made++) {
+            s.due(true, "isWhole", made);
+            s.due(8, "arrows", made);
+            s.due(8, "inverses", made);
+        }
     }
 
     private static void bounds9() {

@@ -19,6 +19,9 @@ public final class LongRunTest {
     }
 
     private void end() {
+        while (hasRoomFor(2)) {
+            due(true, "isWhole", 0);
+        }
         while (hasRoomFor(1)) {
             due(true, "isSound");
         }
@@ -200,6 +203,47 @@ public final class LongRunTest {
         run.end();
     }
 
+    /** What was asked of much is forgotten when little is asked, and the other way round. */
+    private static void muchAndLittle() {
+        LongRunTest run = new LongRunTest("much and little");
+        run.due(0, "category", 4);
+        for (int object = 1; object < 4; object++) {
+            run.due(3 + object, "arrow", 0, 0, object);
+        }
+        // The presheaf s has s elements everywhere, each over its like.
+        for (int size = 0; size < 5; size++) {
+            run.due(size, "presheaf", 0);
+            for (int element = 0; element < size; element++) {
+                for (int object = 0; object < 4; object++) {
+                    run.due(element, "element", size, object);
+                }
+                for (int arrow = 4; arrow < 7; arrow++) {
+                    run.due(-1, "act", size, arrow, element, element);
+                }
+            }
+        }
+        int[] order = {4, 0, 3, 1, 2, 4, 3, 2, 1, 0};
+        int[] nines = {1, 9, 81, 729, 6561};
+        for (int first : order) {
+            run.due(true, "areAlike", 4, 4);
+            for (int other = 0; other < 5; other++) {
+                int maps = 1;
+                for (int i = 0; i < first; i++) {
+                    maps *= other;
+                }
+                run.due(maps, "maps", first, other);
+                run.due(first == other, "areAlike", first, other);
+            }
+            run.due(first, "sections", first);
+            run.due(nines[first], "parts", first);
+            run.due(true, "isSheaf", first);
+            run.due(5, "plus", first);
+            run.due(true, "areAlike", first, 5);
+            run.due(5, "drop");
+        }
+        run.end();
+    }
+
     public static void main(String[] args) {
         dropAndAdd();
         fillAndEmpty();
@@ -208,6 +252,7 @@ public final class LongRunTest {
         toldAgain();
         coveredAgain();
         askedAgain();
+        muchAndLittle();
         Script.end("long runs");
     }
 }

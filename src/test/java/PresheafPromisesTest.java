@@ -411,6 +411,35 @@ public final class PresheafPromisesTest {
         s.refused(Script.UNSUPPORTED, "combine", 8, 8, '^');
     }
 
+    /** With one element everywhere as the exponent a power is what it was, in each category. */
+    private static void powersOfEach() {
+        Script s = new Script("promise 20, powers of each category");
+        s.call("category", 1);
+        s.arrow();
+        s.idempotent();
+        s.sets(0, 1);
+        s.sets(0, 4);
+        s.sets(1, 1, 1);
+        s.acts(2, 2, 0);
+        s.sets(1, 2, 3);
+        s.acts(3, 2, 0, 1, 1);
+        s.sets(2, 1);
+        s.acts(4, 1, 0);
+        s.sets(2, 3);
+        s.acts(5, 1, 0, 0, 2);
+        s.due(6, "combine", 4, 5, '^');
+        s.sizesAre(6, 3);
+        s.actsAs(6, 1, 0, 0, 2);
+        s.due(7, "combine", 2, 3, '^');
+        s.sizesAre(7, 2, 3);
+        s.actsAs(7, 2, 0, 1, 1);
+        s.due(8, "combine", 0, 1, '^');
+        s.sizesAre(8, 4);
+        s.due(9, "combine", 2, 3, '^');
+        s.sizesAre(9, 2, 3);
+        s.actsAs(9, 2, 0, 1, 1);
+    }
+
     private static void promise21() {
         Script s = new Script("promise 21");
         s.arrow();
@@ -656,6 +685,7 @@ public final class PresheafPromisesTest {
         promise18();
         promise19();
         promise20();
+        powersOfEach();
         promise21();
         promise22();
         promise23();

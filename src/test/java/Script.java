@@ -170,6 +170,17 @@ final class Script {
         return monoid(rows);
     }
 
+    /** One object; the arrow i is that much of one thing, and what would be more than the last one is the last one. */
+    int amounts(int last) {
+        int[][] rows = new int[last][last];
+        for (int second = 0; second < last; second++) {
+            for (int first = 0; first < last; first++) {
+                rows[second][first] = Math.min(second + first + 2, last);
+            }
+        }
+        return monoid(rows);
+    }
+
     /** The group of two. */
     int swap() {
         return monoid(new int[] {0});

@@ -123,6 +123,52 @@ public final class SheafPromisesTest {
         u.due(0, "leastCover", 1, 0);
     }
 
+    /** What covers and comes of what covers covers, again and again. */
+    private static void promise31c() {
+        for (int last = 1; last < 12; last++) {
+            Script s = new Script("promise 31, amounts up to " + last);
+            s.amounts(last);
+            s.due(last + 2, "sieves", 0, 0);
+            int most = 1 << last;
+            for (int least = 1; least <= last; least++) {
+                s.due(last + 1, "cover", 0, 0, 2 * most - (1 << least));
+                s.due(most, "leastCover", 0, 0);
+                s.due(false, "covers", 0, 0, 0);
+                s.due(true, "covers", 0, 0, most);
+                s.due(1, "uncover", 0);
+                s.due(1, "cover", 0, 0, 2 * most - 1);
+                s.due(2 * most - 1, "leastCover", 0, 0);
+                s.due(1, "uncover", 0);
+            }
+        }
+    }
+
+    /** As many told sieves as there is room for in calls, some of them twice, and of two objects. */
+    private static void promise32b() {
+        Script s = new Script("promise 32, many");
+        s.call("category", 4);
+        for (int arrow = 4; arrow < 12; arrow++) {
+            s.due(arrow, "arrow", 0, 3, arrow < 11 ? 0 : 1);
+        }
+        for (int set = 127; set >= 0; set--) {
+            s.call("cover", 0, 0, set << 4);
+            if (set % 3 == 0) {
+                s.call("cover", 0, 0, set << 4);
+            }
+        }
+        s.call("cover", 0, 0, 1 + 127 * 16);
+        s.call("cover", 0, 1, 2 + 2048);
+        s.call("cover", 0, 1, 2048);
+        s.call("cover", 0, 1, 0);
+        s.call("cover", 0, 1, 2048);
+        s.due(132, "uncover", 0);
+        s.due(0, "uncover", 0);
+        s.call("cover", 0, 0, 2047 - 15);
+        s.call("cover", 0, 0, 64);
+        s.call("cover", 0, 0, 2047 - 15);
+        s.due(2, "uncover", 0);
+    }
+
     private static void promise32() {
         Script s = new Script("promise 32");
         points(s);
@@ -377,7 +423,9 @@ public final class SheafPromisesTest {
         promise30();
         promise31();
         promise31b();
+        promise31c();
         promise32();
+        promise32b();
         promise33();
         promise34();
         promise35();
