@@ -328,6 +328,48 @@ public final class BoundsTest {
         t.refused(Script.NONE, "mapped", 0, 1, -1, 0);
     }
 
+    /**
+     * Points at 0, and over them what has one at 1 and at 3, and what has two, a start and an end, at 2. Of what
+     * they go to, the point 0 has 1 and 2 over it, 1 has 3 and 1, and at 2 there are one from 0 to 0, one from 0
+     * to 1 and two from 1 to 1.
+     */
+    private static void just5001() {
+        Script s = new Script("5001 maps");
+        s.call("category", 4);
+        for (int to : new int[] {1, 2, 2, 3}) {
+            s.call("arrow", 0, 0, to);
+        }
+        s.sets(0, 3, 4, 4, 1);
+        s.acts(0, 4, 2, 0, 2, 0);
+        s.acts(0, 5, 1, 1, 2, 2);
+        s.acts(0, 6, 0, 0, 0, 2);
+        s.acts(0, 7, 0);
+        s.sets(0, 2, 4, 4, 3);
+        s.acts(1, 4, 1, 1, 1, 0);
+        s.acts(1, 5, 0, 0, 1, 1);
+        s.acts(1, 6, 1, 0, 1, 1);
+        s.acts(1, 7, 0, 0, 1);
+        // To where the point 0 goes: then in what ways what lies over it goes, the point 1 and the point 2.
+        int counted = 1 * 1 * 2 * (1 * 1) * 1 + 3 * 3 * 1 * (1 * 1 + 2 * 2) * (1 + 3 * 3 * 2 * 2);
+        Script.expect(counted == 1667, "a third of 5001 are 1667");
+        s.due(counted, "maps", 0, 1);
+        s.due(1, "mapped", 0, 1, 1666, 0);
+        s.refused(Script.NONE, "mapped", 0, 1, 1667, 0);
+        s.due(3, "element", 0, 0);
+        s.due(2 * counted, "maps", 0, 1);
+        s.due(1, "element", 0, 3);
+        s.due(-1, "act", 0, 7, 1, 3);
+        s.due(true, "isPresheaf", 0);
+        // The last point goes where it goes with one of three over it: 5001, one too many.
+        s.refused(Script.UNSUPPORTED, "maps", 0, 1);
+        s.refused(Script.UNSUPPORTED, "areAlike", 0, 1);
+        for (int index : new int[] {-1, 0, 4999, 5000, 5001}) {
+            s.refused(Script.UNSUPPORTED, "mapped", 0, 1, index, 0);
+        }
+        s.due(3, "act", 0, 7, 1, 0);
+        s.due(2 * (counted + 2), "maps", 0, 1);
+    }
+
     /** Only those from the first to the other are too many, or those back. */
     private static void oneWayOnly() {
         Script s = new Script("too many maps one way");
@@ -387,6 +429,7 @@ public final class BoundsTest {
         families();
         pushed();
         almost5000();
+        just5001();
         oneWayOnly();
         goesRound();
         Script.end("bounds");
