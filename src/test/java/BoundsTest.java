@@ -197,7 +197,7 @@ public final class BoundsTest {
     /** From as many points as there are sizes to one: to the left a sum, to the right a product. */
     private static void pushed() {
         int[][] rows = {{2, 2}, {4, 0}, {0, 4}, {3, 2}, {4, 1}, {1, 4}, {1, 3}, {1, 1, 2}, {2, 2, 1}, {1, 1, 1, 1}, {2, 1, 1, 1},
-            {4, 4, 4, 4}, {0, 0, 0, 0}, {4, 4, 4, 0}, {2, 3}, {1, 2, 2}, {0, 0, 4, 1}};
+            {4, 4, 4, 4}, {0, 0, 0, 0}, {4, 4, 4, 0}, {2, 3}, {1, 2, 2}, {0, 0, 4, 1}, {0, 0, 0, 4}, {1, 0, 0, 4}, {1, 1, 1, 4}};
         for (int[] row : rows) {
             Script s = new Script("pushed from points, " + java.util.Arrays.toString(row));
             s.call("category", row.length);

@@ -335,10 +335,79 @@ public final class FunctorPromisesTest {
         s.refused(Script.UNSUPPORTED, "move", 0, 0, 'l');
     }
 
+    /** What is at the last of four objects, moved along the last of twelve arrows. */
+    private static void lastOfAll() {
+        Script s = new Script("promise 42, the last object and the last arrow");
+        s.call("category", 4);
+        s.call("arrow", 0, 1, 2);
+        s.call("arrow", 0, 0, 2);
+        for (int arrow = 6; arrow < 11; arrow++) {
+            s.call("arrow", 0, 3, 2);
+        }
+        s.due(11, "arrow", 0, 0, 1);
+        s.call("compose", 0, 4, 11, 5);
+        s.call("category", 4);
+        s.call("functor", 1, 0);
+        sends(s, 0, new int[] {3, 3, 3, 0});
+        s.sets(1, 1, 1, 1, 3);
+        s.due(1, "move", 0, 0, 'r');
+        s.sizesAre(1, 3, 3, 3, 1);
+        for (int arrow : new int[] {4, 5, 11}) {
+            s.actsAs(1, arrow, 0, 1, 2);
+        }
+        s.actsAs(1, 10, 0, 0, 0);
+        s.due(2, "move", 0, 0, 'l');
+        s.sizesAre(2, 3, 0, 0, 3);
+        sends(s, 0, new int[] {3, 3, 3, 1});
+        s.sets(1, 1, 1, 1, 4);
+        s.due(4, "move", 0, 3, 'l');
+        s.sizesAre(4, 4, 4, 0, 3);
+        s.actsAs(4, 11, 0, 1, 2, 3);
+        s.due(5, "move", 0, 3, 'r');
+        s.sizesAre(5, 1, 4, 4, 1);
+        s.actsAs(5, 4, 0, 1, 2, 3);
+        s.actsAs(5, 11, 0, 0, 0, 0);
+    }
+
+    /** Twelve arrows from where each of four objects goes: of those from one object all go where one of them goes. */
+    private static void allPairs() {
+        Script s = new Script("promise 42, 48 pairs");
+        s.constants(11);
+        s.call("opposite", 0);
+        s.call("category", 4);
+        for (int object = 0; object < 4; object++) {
+            s.call("arrow", 2, object, object);
+            s.call("compose", 2, 4 + object, 4 + object, 4 + object);
+        }
+        s.call("functor", 2, 1);
+        sends(s, 0, new int[] {0, 0, 0, 0}, 1, 2, 2, 1);
+        s.due(true, "isFunctor", 0);
+        int[][] rows = {{2, 2, 1, 1}, {1, 1, 2, 2}, {2, 1, 1, 2}, {1, 2, 2, 1}, {1, 1, 1, 4}, {4, 1, 1, 1}, {1, 3, 1, 1},
+            {2, 2, 2, 1}, {1, 1, 3, 2}, {4, 4, 4, 0}};
+        for (int[] row : rows) {
+            s.sets(2, row);
+            for (int object = 0; object < 4; object++) {
+                s.acts(0, 4 + object, java.util.Arrays.copyOf(new int[] {0, 1, 2, 3}, row[object]));
+            }
+            int product = row[0] * row[1] * row[2] * row[3];
+            if (product > 4) {
+                s.refused(Script.UNSUPPORTED, "move", 0, 0, 'r');
+            } else {
+                s.due(1, "move", 0, 0, 'r');
+                s.sizesAre(1, product);
+                s.actsAs(1, 11, java.util.Arrays.copyOf(new int[] {0, 1, 2, 3}, product));
+                s.due(1, "drop");
+            }
+            s.due(0, "drop");
+        }
+    }
+
     private static void promise42() {
         back();
         left();
         right();
+        lastOfAll();
+        allPairs();
         Script s = new Script("promise 42, refusals");
         s.call("category", 1);
         s.arrow();

@@ -187,12 +187,61 @@ public final class PartPromisesTest {
         t.due(false, "isBoolean", 4);
     }
 
+    /** As many places as there can be: the last one counts as all others do. */
+    private static void sixteenPlaces() {
+        Script s = new Script("16 places, nothing over anything");
+        s.call("category", 4);
+        s.sets(0, 4, 4, 4, 4);
+        s.due(65536, "parts", 0);
+        s.due(true, "isBoolean", 0);
+        s.due(0xF0F0, "join", 0, 0x0F0F, 0xF0F0, '>');
+        s.due(0x8000, "join", 0, 0x7FFF, 0x8000, '>');
+        s.due(0x8000, "join", 0, 0xF000, 0x8FFF, '&');
+        s.due(0xFFFF, "join", 0, 0x8000, 0x7FFF, '|');
+        s.due(0x8000, "least", 0, 0x8000);
+        s.due(8, "truthOf", 0, 0x8000, 15);
+        s.due(0, "truthOf", 0, 0x7FFF, 15);
+        s.refused(Script.OUT, "truthOf", 0, 0x8000, 16);
+        Script t = new Script("16 places, the first ones over the last ones");
+        t.call("category", 4);
+        t.call("arrow", 0, 3, 0);
+        t.sets(0, 4, 4, 4, 4);
+        t.acts(0, 4, 3, 2, 1, 0);
+        t.due(81 * 256, "parts", 0);
+        t.due(false, "isBoolean", 0);
+        t.due(0x8001, "least", 0, 1);
+        t.due(0x9009, "least", 0, 9);
+        t.refused(Script.ILLEGAL, "join", 0, 1, 0, '&');
+        t.refused(Script.ILLEGAL, "join", 0, 0, 0x7FFF, '|');
+        t.due(0xFFFE, "join", 0, 0x8001, 0x8000, '>');
+        t.due(0x7FFE, "join", 0, 0x8000, 0, '>');
+        t.due(16, "truthOf", 0, 0x8000, 0);
+        t.due(1 + 16, "truthOf", 0, 0x8001, 0);
+        t.due(8, "truthOf", 0, 0x8000, 15);
+        t.acts(0, 4, 3, 3, 3, 3);
+        t.due((8 + 8 * 16) * 256, "parts", 0);
+        t.due(0x800F, "least", 0, 15);
+        Script u = new Script("16 places, the last ones turned round");
+        u.call("category", 4);
+        u.call("arrow", 0, 3, 3);
+        u.call("compose", 0, 4, 4, 3);
+        u.sets(0, 4, 4, 4, 4);
+        u.acts(0, 4, 1, 0, 3, 2);
+        u.due(4 * 4096, "parts", 0);
+        u.due(true, "isBoolean", 0);
+        u.due(0xC000, "least", 0, 0x8000);
+        u.due(0x3FFF, "join", 0, 0xC000, 0, '>');
+        u.due(8 + 16, "truthOf", 0, 0xC000, 15);
+        u.refused(Script.ILLEGAL, "truthOf", 0, 0x8000, 15);
+    }
+
     public static void main(String[] args) {
         promise25();
         promise26();
         promise27();
         promise28();
         promise29();
+        sixteenPlaces();
         Script.end("promises 25 to 29");
     }
 }

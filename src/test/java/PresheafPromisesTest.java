@@ -440,6 +440,33 @@ public final class PresheafPromisesTest {
         s.actsAs(9, 2, 0, 1, 1);
     }
 
+    /** What the last of four elements at where the last of twelve arrows comes from does leaves one map of two. */
+    private static void lastPair() {
+        Script s = new Script("promise 20, the last element and the last arrow");
+        s.call("category", 4);
+        s.call("arrow", 0, 0, 1);
+        s.call("arrow", 0, 0, 2);
+        for (int arrow = 6; arrow < 11; arrow++) {
+            s.call("arrow", 0, 3, 2);
+        }
+        s.due(11, "arrow", 0, 1, 2);
+        s.call("compose", 0, 11, 4, 5);
+        s.sets(0, 2, 4, 0, 0);
+        s.acts(0, 4, 0, 0, 0, 1);
+        s.sets(0, 2, 1, 0, 0);
+        s.acts(1, 4, 0);
+        s.due(2, "combine", 0, 1, '^');
+        s.sizesAre(2, 4, 1, 1, 1);
+        s.actsAs(2, 4, 0);
+        s.actsAs(2, 11, 0);
+        // With no element over the last one of both it goes where it will.
+        s.call("act", 0, 4, 3, 0);
+        s.due(3, "combine", 0, 1, '^');
+        s.sizesAre(3, 4, 2, 2, 1);
+        s.actsAs(3, 4, 0, 1);
+        s.actsAs(3, 11, 0, 1);
+    }
+
     private static void promise21() {
         Script s = new Script("promise 21");
         s.arrow();
@@ -495,19 +522,7 @@ public final class PresheafPromisesTest {
         s.parallel(2);
         int[][] edges = {{0, 1, 1, 0}, {0, 1, 1, 2, 2, 0}, {0, 1, 1, 2, 2, 3, 3, 0}, {0, 1, 0, 2, 1, 2}, {0, 0, 0, 1}};
         for (int i = 0; i < edges.length; i++) {
-            int points = 0;
-            for (int end : edges[i]) {
-                points = Math.max(points, end + 1);
-            }
-            s.due(i, "presheaf", 0);
-            for (int j = 0; j < points; j++) {
-                s.call("element", i, 0);
-            }
-            for (int j = 0; 2 * j < edges[i].length; j++) {
-                s.call("element", i, 1);
-                s.call("act", i, 2, j, edges[i][2 * j]);
-                s.call("act", i, 3, j, edges[i][2 * j + 1]);
-            }
+            graph(s, i, edges[i]);
         }
         // Round by two, three and four: none goes round another one but by a divisor.
         int[][] counts = {{2, 0, 0, 0, 1}, {0, 3, 0, 0, 1}, {2, 0, 4, 0, 1}, {0, 0, 0, 1, 2}, {0, 0, 0, 0, 2}};
@@ -523,6 +538,69 @@ public final class PresheafPromisesTest {
         s.due(false, "areAlike", 3, 1);
         s.due(0, "sections", 1);
         s.due(1, "sections", 4);
+        deadEnds(s, counts);
+    }
+
+    /** What goes nowhere from one point may go somewhere from the next one, whatever was asked before. */
+    private static void deadEnds(Script s, int[][] before) {
+        // Round by two and a loop, before it, behind it and on both sides of it.
+        int[][] edges = {{0, 1, 1, 0, 2, 2}, {0, 0, 1, 2, 2, 1}, {0, 0, 1, 2, 2, 1, 3, 3}};
+        for (int i = 0; i < edges.length; i++) {
+            graph(s, 5 + i, edges[i]);
+        }
+        int[][] counts = {{3, 3, 4}, {1, 1, 2}, {3, 3, 4}, {1, 1, 2}, {1, 1, 2}};
+        int[][] cycles = {{2}, {0}, {0, 3}};
+        // Twelve elements over one: far too many maps, of which just the first ones are looked at.
+        s.call("category", 4);
+        for (int to = 0; to < 3; to++) {
+            s.call("arrow", 1, 3, to);
+        }
+        s.sets(1, 4, 4, 4, 1);
+        for (int arrow = 4; arrow < 7; arrow++) {
+            s.acts(8, arrow, 0, 0, 0, 0);
+        }
+        for (int i = 0; i < counts.length; i++) {
+            for (int j = 0; j < before.length; j++) {
+                s.refused(Script.UNSUPPORTED, "maps", 8, 8);
+                s.due(before[i][j], "maps", i, j);
+            }
+            for (int j = 0; j < edges.length; j++) {
+                s.refused(Script.UNSUPPORTED, "areAlike", 8, 8);
+                s.due(counts[i][j], "maps", i, 5 + j);
+            }
+        }
+        // Round by three goes to a loop alone.
+        for (int j = 0; j < edges.length; j++) {
+            for (int index = 0; index < cycles[j].length; index++) {
+                s.refused(Script.UNSUPPORTED, "maps", 8, 8);
+                for (int place = 0; place < 3; place++) {
+                    s.due(cycles[j][index], "mapped", 1, 5 + j, index, place);
+                }
+            }
+            s.refused(Script.NONE, "mapped", 1, 5 + j, cycles[j].length, 0);
+        }
+        s.due(1, "sections", 5);
+        s.due(2, "sections", 7);
+        s.due(false, "areAlike", 0, 5);
+        s.due(true, "areAlike", 5, 6);
+        s.due(true, "areAlike", 6, 5);
+    }
+
+    /** A graph by the starts and the ends of its edges. */
+    private static void graph(Script s, int number, int... ends) {
+        s.due(number, "presheaf", 0);
+        int points = 0;
+        for (int end : ends) {
+            points = Math.max(points, end + 1);
+        }
+        for (int j = 0; j < points; j++) {
+            s.call("element", number, 0);
+        }
+        for (int j = 0; 2 * j < ends.length; j++) {
+            s.call("element", number, 1);
+            s.call("act", number, 2, j, ends[2 * j]);
+            s.call("act", number, 3, j, ends[2 * j + 1]);
+        }
     }
 
     /** Just 5000: two elements over one go to two over one or to one, in 5 ways, and one alone goes in 2 ways. */
@@ -686,6 +764,7 @@ public final class PresheafPromisesTest {
         promise19();
         promise20();
         powersOfEach();
+        lastPair();
         promise21();
         promise22();
         promise23();
